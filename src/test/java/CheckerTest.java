@@ -19,6 +19,7 @@ public final class CheckerTest {
     statusForgetsClosedBlocks();
     statusWithoutSolution();
     statusOfTheLongestChain();
+    statusOfTheSlowestContext();
     statusInTheDeepestNest();
     statusAtTheGreatestConstants();
     checkAnswers();
@@ -161,6 +162,10 @@ public final class CheckerTest {
     for (int k = 0; k < 8; k++) {
       Due.is("cleared accessStatus(" + k + ")", t.accessStatus(k), IndexTypeChecker.ST_NOT_ACCESS);
     }
+    t.emit(5, 0, 0, 0);
+    Due.is("accessStatus(0)", t.accessStatus(0), IndexTypeChecker.ST_HIGH_FAIL);
+    t.clearProgram();
+    Due.is("accessStatus(0) of a cleared access", t.accessStatus(0), IndexTypeChecker.ST_NOT_ACCESS);
   }
 
   private static void statusOfEachKind() {
@@ -341,6 +346,29 @@ public final class CheckerTest {
       down.emit(5, 0, 4, 0);
       Due.is("downwards, slack " + slack, down.accessStatus(4), slack == 0 ? 1 : 3);
     }
+  }
+
+  /**
+   * The order 0 < 3 < 2 < 4 < 5 < 6 < 1 < 7, told from its far end, so that a solver that goes
+   * through the constraints as they stand learns one step of it a round.
+   */
+  private static void statusOfTheSlowestContext() {
+    IndexTypeChecker t = fresh();
+    t.declare(0, 1, 1);
+    t.addPre(0, 3, -1);
+    t.addPre(3, 2, -1);
+    for (int v = 4; v < 8; v++) {
+      t.emit(1, v, 0, 1000);
+    }
+    t.emit(2, 2, 4, -1);
+    t.emit(2, 4, 5, -1);
+    t.emit(2, 5, 6, -1);
+    t.emit(2, 6, 1, -1);
+    t.emit(5, 0, 7, 0);
+    Due.is("7 may be above 1", t.accessStatus(8), IndexTypeChecker.ST_HIGH_FAIL);
+    t.emit(2, 7, 1, 0);
+    t.emit(5, 0, 7, 0);
+    Due.is("7 is not above 1", t.accessStatus(10), IndexTypeChecker.ST_OK);
   }
 
   private static void statusInTheDeepestNest() {

@@ -14,9 +14,10 @@ final class Model {
   private final List<int[]> pre = new ArrayList<>();
   private final int[][] length = new int[4][2];
   private final int[] param = new int[4];
-  private int[][] cells = new int[4][16];
+  private final int[][] cells = new int[4][16];
   private int acc = 0;
   private int trapAt = -1;
+  private int fuelLeft = 0;
 
   Model(int programCap, int preCap) {
     this.programCap = Math.max(8, Math.min(32, programCap));
@@ -147,8 +148,6 @@ final class Model {
     return block(0, program.size(), value);
   }
 
-  private int fuelLeft;
-
   /** Runs the instructions from..to-1, which hold whole blocks only. */
   private int block(int from, int to, int[] value) {
     int pc = from;
@@ -222,6 +221,7 @@ final class Model {
     return true;
   }
 
+  /** The size of the program if the block is open. */
   private int matchingEnd(int opener) {
     int depth = 0;
     for (int k = opener; k < program.size(); k++) {
@@ -238,7 +238,11 @@ final class Model {
     List<Integer> found = new ArrayList<>();
     for (int j = 0; j < k; j++) {
       int op = program.get(j)[0];
-      if ((op == 1 || op == 2) && matchingEnd(j) >= k && !(matchingEnd(j) == k && k < program.size())) {
+      if (op != 1 && op != 2) {
+        continue;
+      }
+      int last = matchingEnd(j);
+      if (last > k || last == program.size()) {
         found.add(j);
       }
     }

@@ -79,6 +79,8 @@ public final class RunTest {
     t.setParam(2, -1000);
     t.addPre(1, 2, 1000);
     Due.is("run with a difference of 2000", t.run(10), REFUSED);
+    t.clearPre();
+    Due.is("run after the only precondition is cleared", t.run(10), DONE);
   }
 
   private static void refusedByLengths() {
