@@ -6,6 +6,7 @@ public final class CheckerTest {
   public static void main(String[] args) {
     consistency();
     consistencyNeedsEveryVariable();
+    consistencyDoesNotWearOut();
     implication();
     implicationWithoutPreconditions();
     implicationRefuses();
@@ -68,6 +69,19 @@ public final class CheckerTest {
     Due.yes("consistent() with a cycle of sum 0 over all four", t.consistent());
     t.addPre(3, 2, -201);
     Due.no("consistent() with a cycle of sum -1 over all four", t.consistent());
+  }
+
+  /** A solver that went on from where the last question left it would overflow in time. */
+  private static void consistencyDoesNotWearOut() {
+    for (int x = 0; x < 4; x++) {
+      IndexTypeChecker t = fresh();
+      t.addPre(x, x, -1000);
+      int consistent = 0;
+      for (int n = 0; n < 600000; n++) {
+        consistent += t.consistent() ? 1 : 0;
+      }
+      Due.is("times that " + x + " - " + x + " <= -1000 was consistent", consistent, 0);
+    }
   }
 
   private static void implication() {
