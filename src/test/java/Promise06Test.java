@@ -10,6 +10,7 @@ public final class Promise06Test {
     eachParameterIsItsOwn();
     theCheckerDoesNotSeeParameters();
     takenWithBlocksOpenAndWhenFull();
+    nothingElseChanges();
     Due.finish();
   }
 
@@ -137,6 +138,20 @@ public final class Promise06Test {
       Due.is("acc() after setParam", t.acc(), acc);
       Due.is("trapAt() after setParam", t.trapAt(), trapAt);
       Due.is("size() after setParam", t.size(), size);
+    }
+  }
+
+  /** "sets the concrete value of parameter p", and no more: with it set back, all is as it was. */
+  private static void nothingElseChanges() {
+    int[] made = {0, 3, 5, -4};
+    for (int p = 1; p <= 3; p++) {
+      int parameter = p;
+      for (String name : new String[] {"trapped", "open", "closed"}) {
+        Twins.unchanged("setParam(" + p + ", 16) and back on " + name, States.of(name), t -> {
+          t.setParam(parameter, 16);
+          t.setParam(parameter, made[parameter]);
+        });
+      }
     }
   }
 }

@@ -2,6 +2,7 @@
 public final class Promise09Test {
   public static void main(String[] args) {
     variableOutsideIsFalse();
+    boundLoopVariableIsOutside();
     constantOutsideIsFalse();
     onePrecondition();
     chainsOfPreconditions();
@@ -36,6 +37,23 @@ public final class Promise09Test {
     }
     Twins.refused("implies(0, 4, 0) in LOOP 4", States::open, t -> t.implies(0, 4, 0));
     Twins.refused("implies(4, 4, 0) in LOOP 4", States::open, t -> t.implies(4, 4, 0));
+  }
+
+  /** Contrary preconditions entail everything, so the answer false is due to the number alone. */
+  private static void boundLoopVariableIsOutside() {
+    for (int v = 4; v <= 7; v++) {
+      for (int other = 0; other <= 7; other++) {
+        for (int c : new int[] {-1000, 0, 1000}) {
+          is(States.contraryAndOpen(), v, other, c, false);
+          is(States.contraryAndOpen(), other, v, c, false);
+        }
+      }
+    }
+    for (int x = 0; x <= 3; x++) {
+      for (int y = 0; y <= 3; y++) {
+        is(States.contraryAndOpen(), x, y, -1000, true);
+      }
+    }
   }
 
   /** "or c is not in [-1000, 1000]". */
@@ -125,6 +143,15 @@ public final class Promise09Test {
     t.addPre(3, 0, -1000);
     is(t, 1, 0, 1000, true);
     is(t, 1, 0, 999, false);
+    // By way of -2000 and back.
+    for (int more = 0; more <= 1; more++) {
+      t.clearPre();
+      t.addPre(1, 2, -1000 + more);
+      t.addPre(2, 3, -1000);
+      t.addPre(3, 0, 1000);
+      is(t, 1, 0, -1000 + more, true);
+      is(t, 1, 0, -1000, more == 0);
+    }
   }
 
   /** "For valid arguments, if the stored preconditions have no integer solution, the answer is true." */

@@ -26,7 +26,10 @@ public final class Promise10Test {
     longestChain();
     slowestContext();
     deepestNest();
+    everyBlockOfTheDeepestNestCounts();
     greatestConstants();
+    farthestWayToUpper();
+    farthestWayToLower();
     changesNothing();
     Due.finish();
   }
@@ -419,6 +422,20 @@ public final class Promise10Test {
     }
   }
 
+  /** "the constraints of every block enclosing k": of 31, the one that is needed stands at each place. */
+  private static void everyBlockOfTheDeepestNestCounts() {
+    for (int place = 0; place <= 31; place++) {
+      IndexTypeChecker t = States.fresh();
+      t.declare(0, 0, 4);
+      t.addPre(0, 1, 0);
+      for (int block = 0; block < 31; block++) {
+        Emit.when(t, 1, 0, block == place ? 3 : 4);
+      }
+      Due.yes("the last instruction", Emit.load(t, 0, 1, 0));
+      is("with the tighter block at " + place, t, 31, place < 31 ? OK : HIGH_FAIL);
+    }
+  }
+
   private static void greatestConstants() {
     IndexTypeChecker t = States.fresh();
     t.declare(0, 1, 1000);
@@ -450,6 +467,43 @@ public final class Promise10Test {
       u.addPre(1, 3, 999 + more);
       u.addPre(3, 2, 1000);
       is("n - m <= " + (1999 + more) + " known", u, 0, more <= 0 ? LOW_FAIL : BOTH_FAIL);
+    }
+  }
+
+  /** 3 - 0 <= 1999 + slack, by way of all eight variables and of a sum of 3998. */
+  private static void farthestWayToUpper() {
+    for (int slack = -1; slack <= 1; slack++) {
+      IndexTypeChecker t = States.fresh();
+      t.declare(0, 0, 1000);
+      t.addPre(1, 0, 1000);
+      t.addPre(2, 1, 1000);
+      Emit.loop(t, 4, 2, 1000);
+      Emit.loop(t, 5, 4, 1000);
+      Emit.loop(t, 6, 5, -999);
+      Emit.loop(t, 7, 6, -999);
+      Emit.when(t, 3, 7, 1 + slack);
+      Emit.load(t, 0, 3, -1000);
+      is("known is 3 - 0 <= " + (1999 + slack), t, 5, slack <= 0 ? LOW_FAIL : BOTH_FAIL);
+    }
+  }
+
+  /** 0 - 7 <= -1000 + slack, by way of all eight variables and of a sum of -3999. */
+  private static void farthestWayToLower() {
+    for (int slack = -1; slack <= 1; slack++) {
+      IndexTypeChecker t = States.fresh();
+      t.addPre(0, 1, -1000);
+      t.addPre(1, 2, -1000);
+      t.addPre(2, 3, -1000);
+      Emit.loop(t, 4, 3, 1000);
+      Emit.when(t, 3, 4, -999);
+      Emit.loop(t, 5, 4, 1000);
+      Emit.when(t, 4, 5, 1000);
+      Emit.loop(t, 6, 5, 1000);
+      Emit.when(t, 5, 6, 1000);
+      Emit.loop(t, 7, 6, 1000);
+      Emit.when(t, 6, 7, 999 + slack);
+      Emit.load(t, 0, 7, -1000);
+      is("known is 0 - 7 <= " + (-1000 + slack), t, 8, slack <= 0 ? HIGH_FAIL : BOTH_FAIL);
     }
   }
 

@@ -28,6 +28,7 @@ public final class Promise12Test {
     siblingLoopsShareAVariable();
     ifAtTheEdge();
     skippedIfGoesPastItsOwnEnd();
+    skippedBlockOfADeepNest();
     setAtTheGreatestConstants();
     accessesActOnTheirCell();
     addWrapsAround();
@@ -450,6 +451,29 @@ public final class Promise12Test {
     Due.is("run(4)", t.run(4), DONE);
     Due.is("acc()", t.acc(), 3);
     Due.is("run(3)", t.run(3), OUT);
+  }
+
+  /** Fifteen blocks, one in the other, and the one at the given depth is not entered. */
+  private static void skippedBlockOfADeepNest() {
+    for (int op = 1; op <= 2; op++) {
+      for (int depth = 0; depth <= 15; depth++) {
+        IndexTypeChecker t = States.fresh();
+        for (int n = 0; n < 15; n++) {
+          boolean loops = n == depth && op == 1;
+          boolean opened = loops ? Emit.loop(t, 6, 0, 0) : Emit.when(t, 0, 0, n == depth ? -1 : 0);
+          Due.yes("block " + n + " opens", opened);
+        }
+        Emit.set(t, 9);
+        for (int n = 0; n < 15; n++) {
+          Emit.end(t);
+        }
+        // Each block around the skipped one costs its opener and its END, the skipped one its opener.
+        int cost = depth < 15 ? 2 * depth + 1 : 31;
+        Due.is("run(" + cost + ") with block " + depth + " skipped", t.run(cost), DONE);
+        Due.is("acc()", t.acc(), depth < 15 ? 0 : 9);
+        Due.is("run(" + (cost - 1) + ")", t.run(cost - 1), OUT);
+      }
+    }
   }
 
   /** "SET c: acc = c". */

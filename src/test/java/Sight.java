@@ -5,7 +5,8 @@ import java.util.function.Supplier;
 
 /**
  * All that calls can find out about an object. Much of it shows only by calls that change the
- * object, so each of these has a new one, made in the same way.
+ * object, and a faulty call could hide what another would show, so each kind of question has a new
+ * object, made in the same way.
  */
 final class Sight {
   private final List<String> lines = new ArrayList<>();
@@ -14,13 +15,15 @@ final class Sight {
 
   static List<String> of(Supplier<IndexTypeChecker> made) {
     Sight sight = new Sight();
-    sight.answers("at first", made.get());
+    sight.firstAnswers(made);
     sight.tightestImplied(made.get());
     sight.runs(made.get());
     sight.room(made.get());
     sight.boundAndOpen(made.get());
-    sight.lengths(made.get());
-    sight.parameters(made.get());
+    sight.lengths("under the preconditions", made.get());
+    sight.lengths("without preconditions", Twins.after(made, IndexTypeChecker::clearPre).get());
+    sight.parameters("as they stand", made.get());
+    sight.parameters("without preconditions and lengths", Twins.after(made, Sight::clearPreAndLengths).get());
     return sight.lines;
   }
 
@@ -32,15 +35,33 @@ final class Sight {
     return answer ? 1 : 0;
   }
 
+  private void firstAnswers(Supplier<IndexTypeChecker> made) {
+    see("size()", made.get().size());
+    see("acc()", made.get().acc());
+    see("trapAt()", made.get().trapAt());
+    see("check()", made.get().check());
+    see("consistent()", bit(made.get().consistent()));
+    statuses("at first", made.get());
+    cells("at first", made.get());
+  }
+
   private void answers(String when, IndexTypeChecker t) {
     see(when + ", size()", t.size());
     see(when + ", acc()", t.acc());
     see(when + ", trapAt()", t.trapAt());
     see(when + ", check()", t.check());
     see(when + ", consistent()", bit(t.consistent()));
+    statuses(when, t);
+    cells(when, t);
+  }
+
+  private void statuses(String when, IndexTypeChecker t) {
     for (int k = -1; k <= 32; k++) {
       see(when + ", accessStatus(" + k + ")", t.accessStatus(k));
     }
+  }
+
+  private void cells(String when, IndexTypeChecker t) {
     for (int a = 0; a < 4; a++) {
       for (int i = 0; i < 16; i++) {
         see(when + ", cell(" + a + ", " + i + ")", t.cell(a, i));
@@ -92,13 +113,12 @@ final class Sight {
   }
 
   /** Without preconditions UPPER holds for (v, c) only if v is the length's variable and c below its constant. */
-  private void lengths(IndexTypeChecker t) {
-    t.clearPre();
+  private void lengths(String when, IndexTypeChecker t) {
     for (int a = 0; a < 4; a++) {
       for (int v = 0; v < 4; v++) {
         int array = a;
         int variable = v;
-        see("least c with (" + v + ", c) past array " + a, least(c -> isPast(t, array, variable, c)));
+        see(when + ", least c with (" + v + ", c) past array " + a, least(c -> isPast(t, array, variable, c)));
       }
     }
   }
@@ -110,14 +130,18 @@ final class Sight {
     return status == IndexTypeChecker.ST_HIGH_FAIL || status == IndexTypeChecker.ST_BOTH_FAIL;
   }
 
-  private void parameters(IndexTypeChecker t) {
+  private static void clearPreAndLengths(IndexTypeChecker t) {
     t.clearPre();
     for (int a = 0; a < 4; a++) {
       t.declare(a, 0, 0);
     }
+  }
+
+  /** Where runs are refused, all variables are seen alike. */
+  private void parameters(String when, IndexTypeChecker t) {
     for (int p = 0; p < 4; p++) {
       int parameter = p;
-      see("value of variable " + p, least(c -> isAtMost(t, parameter, c)));
+      see(when + ", value of variable " + p, least(c -> isAtMost(t, parameter, c)));
     }
   }
 
@@ -126,8 +150,7 @@ final class Sight {
     Emit.when(t, p, 0, c);
     Emit.set(t, 1);
     Emit.end(t);
-    t.run(9);
-    return t.acc() == 1;
+    return t.run(9) != IndexTypeChecker.RUN_REFUSED && t.acc() == 1;
   }
 
   /** The least constant that is found true, where those above are true too; 1001 if none is. */

@@ -101,8 +101,19 @@ final class States {
     return t;
   }
 
+  /** As contrary, and all four loop variables are bound, so that only their numbers speak against them. */
+  static IndexTypeChecker contraryAndOpen() {
+    IndexTypeChecker t = contrary();
+    for (int v = 4; v < 8; v++) {
+      Emit.loop(t, v, 0, 1);
+    }
+    return t;
+  }
+
   static String[] names() {
-    return new String[] {"fresh", "trapped", "open", "closed", "full", "fullAndClosed", "contrary"};
+    return new String[] {
+      "fresh", "trapped", "open", "closed", "full", "fullAndClosed", "contrary", "contraryAndOpen"
+    };
   }
 
   static Supplier<IndexTypeChecker> of(String name) {
@@ -113,6 +124,7 @@ final class States {
       case "full" -> States::full;
       case "fullAndClosed" -> States::fullAndClosed;
       case "contrary" -> States::contrary;
+      case "contraryAndOpen" -> States::contraryAndOpen;
       default -> States::fresh;
     };
   }
